@@ -618,10 +618,13 @@ public final class MillStreamModel {
   private final Model model = new Model();
   private final StringBuilder log = new StringBuilder();
   private final int seed;
+  /** Rules that a mill can keep: so there are plans. */
+  private final boolean calm;
   private int names = 0;
 
   private MillStreamModel(int seed) {
     this.seed = seed;
+    calm = seed % 3 != 0;
     random = new Random(seed);
   }
 
@@ -690,7 +693,20 @@ public final class MillStreamModel {
     return s.toString();
   }
 
+  private String calmRule() {
+    String[] musts = {"wheel < ", "level <= cap - ", "out <= 3 * ", "gate <= 5 + ", "work <= 2 * ", "0 <= level * ", "in < 9 * "};
+    String told = " must " + musts[random.nextInt(musts.length)] + (1 + random.nextInt(6));
+    return (random.nextBoolean() ? "any" : "mill " + random.nextInt(4)) + told
+        + (random.nextBoolean() ? " if " + (1 + random.nextInt(12)) + " < hour" : "") + ";";
+  }
+
   private String anyRule() {
+    if (calm && random.nextInt(4) != 0) {
+      return calmRule();
+    }
+    if (calm) {
+      return "any opens " + anySum(0) + " if " + anyCondition() + ";";
+    }
     String who = random.nextBoolean() ? "any" : "mill " + (random.nextInt(12) == 0 ? 7 : random.nextInt(7));
     String told = random.nextInt(3) == 0 ? " opens " + anySum(0) : " must " + anyCondition();
     return who + told + (random.nextBoolean() ? " if " + anyCondition() : "") + ";\n";
@@ -746,7 +762,7 @@ public final class MillStreamModel {
 
   private void tell() {
     int m = anyMill();
-    switch (random.nextInt(9)) {
+    switch (random.nextInt(14)) {
       case 0 -> {
         int v = near(0, random.nextInt(4) == 0 ? 100 : 12);
         boolean want = v >= 0 && v <= 100;
@@ -762,7 +778,7 @@ public final class MillStreamModel {
         int v = random.nextInt(3) == 0 ? near(-100, 100) : near(0, 5);
         due("factor(" + i + ", " + v + ")", real.factor(i, v), model.factor(i, v));
       }
-      case 3 -> {
+      case 3, 8, 9 -> {
         int h = random.nextInt(3) == 0 ? near(0, 239) : model.clock + random.nextInt(5);
         int v = near(0, random.nextInt(3) == 0 ? 1000 : 50);
         boolean ok = model.rains.size() < 400 && model.isMill(m) && h >= 0 && h < 240 && v >= 0 && v <= 1000;
@@ -806,7 +822,7 @@ public final class MillStreamModel {
     int n = anyKnown();
     int h = random.nextInt(3) == 0 ? near(0, 239) : random.nextInt(Math.min(240, model.clock + 12));
     int a = random.nextInt(2) == 0 ? 0 : near(0, 240);
-    int b = near(0, 240);
+    int b = random.nextInt(2) == 0 ? 240 : near(0, 240);
     int what = near(0, 9);
     int i = near(0, 3);
     switch (random.nextInt(12)) {
@@ -816,13 +832,14 @@ public final class MillStreamModel {
       case 5 -> due("first(" + a + ", " + b + ", " + n + ")", real.first(a, b, n), model.first(a, b, n));
       case 6 -> {
         int k = near(0, model.orders.size() - 1);
+        m = random.nextInt(3) == 0 && k >= 0 && k < model.orders.size() ? model.orders.get(k)[1] + 1 : m;
         due("loss(" + k + ", " + m + ", " + a + ", " + b + ", " + n + ")", real.loss(k, m, a, b, n), model.loss(k, m, a, b, n));
       }
       case 7 -> due("culprit(" + m + ", " + a + ", " + b + ", " + n + ")", real.culprit(m, a, b, n), culprit(m, a, b, n));
       case 8 -> {
         int wheel = model.isMill(m) ? model.mills.get(m)[2] : 1;
         int k = wheel < 3 ? near(1, 6) : near(1, 3);
-        int work = random.nextInt(3) == 0 ? near(0, 10000) : random.nextInt(60);
+        int work = random.nextInt(6) == 0 ? near(0, 10000) : random.nextInt(1 + random.nextInt(40));
         k = wheel == 4 && k > 4 && k < 7 ? 4 : k;
         due("plan(" + m + ", " + k + ", " + work + ")", real.plan(m, k, work), model.plan(m, k, work));
         for (int j = -1; j < 7; j++) {
@@ -859,10 +876,13 @@ public final class MillStreamModel {
   }
 
   private void run(int steps) {
-    addMills(1 + random.nextInt(random.nextInt(4) == 0 ? 9 : 4));
+    addMills(3 + random.nextInt(6));
+    for (int i = 0; i < 12; i++) {
+      tell();
+    }
     for (int i = 0; i < steps; i++) {
       int r = random.nextInt(40);
-      if (r < 2) {
+      if (r < 1 || r < 2 && !calm) {
         feedText(anyText());
       } else if (r < 3) {
         addMills(1);

@@ -1,0 +1,157 @@
+import java.lang.management.ManagementFactory;
+import java.lang.reflect.Field;
+import java.lang.reflect.Method;
+import java.lang.reflect.Modifier;
+import java.nio.charset.StandardCharsets;
+import java.nio.file.Files;
+import java.nio.file.Path;
+import java.util.List;
+import java.util.Set;
+import java.util.TreeSet;
+import java.util.regex.Matcher;
+import java.util.regex.Pattern;
+
+/** The form of the program: the document's face and no more, what LANGUAGE.md forbids, and how much a run makes. */
+public final class MillStreamLanguage {
+  private static final Path SOURCE = Path.of("src/main/java/MillStream.java");
+  private static int wrong = 0;
+
+  private static void must(boolean holds, String what) {
+    if (!holds) {
+      wrong++;
+      System.out.println(what);
+    }
+  }
+
+  private static void face() {
+    Set<String> want = new TreeSet<>(List.of("feed(int,int,int,int,int)int", "back(int)int", "read()int", "place()int",
+        "mill(int,int,int,int)int", "spring(int)boolean", "factors(int)boolean", "factor(int,int)boolean", "clock(int)boolean",
+        "rain(int,int,int)int", "order(int,boolean,int)int", "grist(int,int)int", "at(int,int,int,int)int", "sea(int,int)int",
+        "broken(int,int,int)int", "first(int,int,int)int", "loss(int,int,int,int,int)int", "culprit(int,int,int,int)int",
+        "plan(int,int,int)int", "planned(int)int", "told(int,int,int)int", "tolls(int,int,int)int", "count(int)int"));
+    Set<String> names = new TreeSet<>();
+    Set<String> found = new TreeSet<>();
+    for (Method m : MillStream.class.getDeclaredMethods()) {
+      if (!Modifier.isPrivate(m.getModifiers())) {
+        StringBuilder s = new StringBuilder();
+        for (Class<?> p : m.getParameterTypes()) {
+          s.append(s.length() == 0 ? "" : ",").append(p.getName());
+        }
+        found.add(m.getName() + "(" + s + ")" + m.getReturnType().getName());
+        names.add(m.getName());
+        must(Modifier.isPublic(m.getModifiers()) && !Modifier.isStatic(m.getModifiers()), "rule 1: " + m);
+      }
+    }
+    must(found.equals(want), "rule 1: the face is " + found);
+    must(MillStream.class.getDeclaredConstructors().length == 1 && MillStream.class.getConstructors().length == 1,
+        "rule 1: the constructor");
+    must(Modifier.isFinal(MillStream.class.getModifiers()), "rule 1: the class is final");
+    inside(MillStream.class, names);
+    for (Class<?> c : MillStream.class.getDeclaredClasses()) {
+      must(Modifier.isStatic(c.getModifiers()) && !Modifier.isPublic(c.getModifiers()), "rule 1: " + c);
+      inside(c, names);
+    }
+    must(MillStream.class.getDeclaredClasses().length < 12, "rule 11: too many classes");
+  }
+
+  private static void inside(Class<?> c, Set<String> names) {
+    int fields = 0;
+    for (Field f : c.getDeclaredFields()) {
+      boolean constant = Modifier.isStatic(f.getModifiers());
+      fields += constant ? 0 : 1;
+      must(!constant || Modifier.isFinal(f.getModifiers()), "rule 5: " + f);
+      must(!constant || f.getType().isPrimitive() || f.getType() == String.class, "rule 5: " + f);
+      must(c != MillStream.class || Modifier.isPrivate(f.getModifiers()) || f.getName().equals("NONE"), "rule 1: " + f);
+    }
+    must(fields <= 20, "rule 11: " + c + " has " + fields + " fields");
+    for (Method m : c.getDeclaredMethods()) {
+      must(m.getParameterCount() <= 7, "rule 11: " + m);
+      must(c == MillStream.class && Modifier.isPublic(m.getModifiers()) || !names.contains(m.getName()), "rule 1: " + m);
+    }
+  }
+
+  private static void words() throws Exception {
+    String text = Files.readString(SOURCE, StandardCharsets.ISO_8859_1);
+    String code = text.replaceAll("(?s)/\\*.*?\\*/", "").replaceAll("//[^\n]*", "");
+    code = code.replaceAll("'(\\\\.|[^'\\\\])'", "' '").replaceAll("\"[^\"\n]*\"", "\"\"");
+    Matcher m = Pattern.compile("\\b(throw|throws|try|catch|finally|synchronized|assert|volatile|native|Object|System\\.out"
+        + "|hashCode|toString|Exact|double|float|Iterator)\\b|->|::|@|\"\\s*\\+|\\+\\s*\"").matcher(code);
+    while (m.find()) {
+      must(false, "rules 2 to 10: '" + m.group() + "' in the code");
+    }
+    Matcher imports = Pattern.compile("import ([^;]*);").matcher(code);
+    while (imports.find()) {
+      must(imports.group(1).matches("java\\.util\\.(Arrays|ArrayList|List)"), "rule 4: " + imports.group());
+    }
+    for (char c : text.toCharArray()) {
+      must(c < 128, "rule 3: a character beyond 127");
+    }
+    lengths(code.split("\n"));
+  }
+
+  private static void lengths(String[] lines) {
+    int start = -1;
+    String end = "";
+    for (int i = 0; i < lines.length; i++) {
+      Matcher m = Pattern.compile("( {4}| {8})[a-zA-Z][^;=]*\\) \\{").matcher(lines[i]);
+      if (start < 0 && m.matches()) {
+        start = i;
+        end = m.group(1) + "}";
+      } else if (start >= 0 && lines[i].equals(end)) {
+        must(i - start < 60, "rule 11: the method at line " + (start + 1) + " is too long");
+        start = -1;
+      }
+    }
+  }
+
+  private static long made() {
+    com.sun.management.ThreadMXBean bean = (com.sun.management.ThreadMXBean) ManagementFactory.getThreadMXBean();
+    return bean.getThreadAllocatedBytes(Thread.currentThread().getId());
+  }
+
+  private static int askAll(MillStream x) {
+    int sum = x.at(239, 0, 1, 0) + x.sea(240, 1) + x.broken(239, 1, 0) + x.first(0, 240, 1) + x.loss(0, 1, 0, 240, 1);
+    sum += x.culprit(1, 0, 240, 1) + x.plan(0, 3, 1) + x.planned(0) + x.told(0, 1, 3) + x.tolls(0, 240, 1) + x.count(0);
+    sum += x.feed(0x61626364, 0x61626364, 0x61626364, 0x61626364, 0x61626364) + x.read() + x.place();
+    return sum;
+  }
+
+  /** A new object is small beside the room, and what is asked makes nothing more. */
+  private static void room() {
+    MillStream x = new MillStream();
+    x.mill(100, 20, 2, 3);
+    x.mill(100, 20, 2, 3);
+    x.spring(5);
+    x.rain(0, 0, 50);
+    x.order(0, false, 1);
+    x.grist(0, 10);
+    // feeds "act a from 0; any opens 1 if level < 9; end  "
+    int[] law = {0x61637420, 0x61206672, 0x6f6d2030, 0x3b20616e, 0x79206f70, 0x656e7320, 0x31206966, 0x206c6576, 0x656c203c,
+      0x20393b20, 0x656e6420, 0x20202020, 0x20202020, 0x20202020, 0x20202020};
+    for (int i = 0; i < law.length; i += 5) {
+      x.feed(law[i], law[i + 1], law[i + 2], law[i + 3], law[i + 4]);
+    }
+    must(x.read() == 0 && x.count(5) == 1, "the law was not taken");
+    int sum = askAll(x);
+    long start = made();
+    for (int i = 0; i < 30; i++) {
+      sum += askAll(x);
+    }
+    long asked = made() - start;
+    must(asked < 4000, "rule 12: thirty rounds of questions made " + asked + " bytes");
+    start = made();
+    MillStream y = new MillStream();
+    long object = made() - start;
+    must(object < 45000, "rule 12: a new object has " + object + " bytes" + (sum == y.count(0) ? "." : ""));
+  }
+
+  public static void main(String[] args) throws Exception {
+    face();
+    words();
+    room();
+    System.out.println(wrong == 0 ? "the form is as due" : wrong + " rules are not kept");
+    if (wrong != 0) {
+      System.exit(1);
+    }
+  }
+}
