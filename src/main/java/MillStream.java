@@ -191,7 +191,7 @@ public final class MillStream {
         int ahead = 0;
         valley.begin(now, n, NONE);
         for (int k = 0; k < orders.size && orders.hour[k] < b; k++) {
-            if (orders.mill[k] != m) {
+            if (orders.mill[k] != m && orders.matters(k)) {
                 // Without order k nothing is otherwise ahead of its hour: the branch leaves there.
                 ahead += valley.worked(now, m, a, orders.hour[k]);
                 branch.copy(now);
@@ -434,6 +434,23 @@ public final class MillStream {
             setting[size] = v;
             size++;
             return size - 1;
+        }
+
+        /** Not so an order that set what was set already, or that a later one of its hour put aside. */
+        boolean matters(int k) {
+            int ahead = 0;
+            for (int i = 0; i < k; i++) {
+                ahead = isOfSame(i, k) ? setting[i] : ahead;
+            }
+            boolean stays = true;
+            for (int i = k + 1; i < size && hour[i] == hour[k]; i++) {
+                stays = stays && !isOfSame(i, k);
+            }
+            return stays && ahead != setting[k];
+        }
+
+        private boolean isOfSame(int i, int k) {
+            return mill[i] == mill[k] && gate[i] == gate[k];
         }
     }
 
