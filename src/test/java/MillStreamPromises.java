@@ -206,6 +206,24 @@ public final class MillStreamPromises {
     fault("act a from 0; any opens ; end", 1, 24);
     fault("act a from 0; any opens 1 or 1; end", 1, 26);
     fault("act a from 0; must 1 < 2; end", 1, 14);
+    // What follows a fault could itself be gone on with.
+    fault("act a from 0 until end", 1, 19);
+    fault("act a from end", 1, 11);
+    fault("act a from 0 until any opens 1; end", 1, 19);
+    fault("act a from 0 any opens 1; end", 1, 13);
+    fault("act a from 0; mill end", 1, 19);
+    fault("act a from 0; mill any opens 1; end", 1, 19);
+    fault("act a from 0; any end", 1, 18);
+    fault("act a from 0; any opens end", 1, 24);
+    fault("act a from 0; any opens 1 end", 1, 26);
+    fault("act a from 0; any opens 1 if end", 1, 29);
+    fault("act a from 0; any must 1 == end", 1, 28);
+    fault("act a from 0; any opens 1 any opens 1; end", 1, 26);
+    fault("act a from 0; any opens - ; end", 1, 26);
+    fault("act a from 0; any opens 1 + ; end", 1, 28);
+    fault("act a from 0; any opens 1 * ; end", 1, 28);
+    fault("act a from 0; any opens ( ; end", 1, 26);
+    fault("act a from 0; act b from 0; end", 1, 14);
   }
 
   private static String rules(int n) {
@@ -224,6 +242,7 @@ public final class MillStreamPromises {
     fault(head + "+1".repeat(296) + " ", 1, 24 + 592 + 1);
     fault(head + "+1".repeat(295) + ";end end", 1, 24 + 590 + 5);
     fault(head + "+1".repeat(295) + ";end act", 2, 24 + 590 + 5);
+    fault("act a from 0;mill 0 must 1" + "+1".repeat(295) + "==-1;end", 2, 26 + 590 + 2);
     fault("act a from 0;" + rules(30) + "end", 0, -1);
     fault("act a from 0;" + rules(31) + "end", 2, 13 + 12 * 30);
     fault("act a from 0;" + rules(31) + "#", 2, 13 + 12 * 30);
@@ -664,6 +683,31 @@ public final class MillStreamPromises {
     MillStream w = full("act a from 0; any opens wheel; end");
     w.order(0, false, 3);
     due("by the wheel", w.at(0, 0, 1, 3), 3);
+  }
+
+  /** Ten texts of nearly 600 tokens each, of which each opens the gate on its own day as its last token says. */
+  private static void lawInFull() {
+    MillStream x = full("");
+    for (int day = 0; day < 10; day++) {
+      String days = " from " + day + " until " + (day + 1) + ";";
+      fault(x, "act " + (char) ('a' + day) + days + "any opens 0" + "+0".repeat(280) + "+" + (9 - day) + ";end", 0, -1);
+    }
+    for (int day = 0; day < 10; day++) {
+      due("the gate on day " + day, x.at(24 * day + 5, 0, 1, 3), 9 - day);
+    }
+    due("count(5)", x.count(5), 10);
+    // The deepest there can be: two operands wait in each of nine sums within one another.
+    String deep = "";
+    for (int i = 0; i < 8; i++) {
+      deep = "1+2*(" + (deep.isEmpty() ? "3" : deep) + ")";
+    }
+    int want = 3;
+    for (int i = 0; i < 8; i++) {
+      want = 1 + 2 * want;
+    }
+    String deepest = "0 == 1 or 0 == 0 and " + want + " == " + deep;
+    due(deepest, holds(two(), "t", deepest, 0, 0), true);
+    due(deepest, holds(two(), "t", deepest.replace("3", "4"), 0, 0), false);
   }
 
   private static void broken() {
@@ -1108,6 +1152,7 @@ public final class MillStreamPromises {
     promise = "16 broken";
     lawVars();
     lawSums();
+    lawInFull();
     broken();
     promise = "17 first";
     first();
