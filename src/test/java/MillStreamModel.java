@@ -644,7 +644,7 @@ public final class MillStreamModel {
     due(call, got ? 1 : 0, want ? 1 : 0);
   }
 
-  /** Mostly within the bounds, at times at them or just beyond. */
+  /** Mostly within the bounds, at times at them, just beyond or far off. */
   private int near(int least, int most) {
     int r = random.nextInt(24);
     if (r == 0) {
@@ -656,7 +656,10 @@ public final class MillStreamModel {
     if (r == 2) {
       return random.nextBoolean() ? least : most;
     }
-    return most < least ? least : least + random.nextInt(most - least + 1);
+    if (random.nextInt(60) == 0) {
+      return new int[] {Integer.MIN_VALUE, Integer.MAX_VALUE, NO_SUCH, 1 << 16, -2}[random.nextInt(5)];
+    }
+    return most < least ? least : least + random.nextInt(Math.min(most - least, 100000) + 1);
   }
 
   private int anyKnown() {
