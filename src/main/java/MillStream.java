@@ -213,8 +213,7 @@ public final class MillStream {
         planner.ask(m, k, work, valley.mills);
         valley.begin(now, valley.rain.size, NONE);
         valley.run(now, clock - 1);
-        planner.search(valley, now, 0, 0, 0);
-        return planner.keep();
+        return planner.find(valley, now);
     }
 
     public int planned(int i) {
@@ -661,6 +660,7 @@ public final class MillStream {
             }
         }
 
+        /** What is asked for with the next find. */
         void ask(int m, int k, int work, Mills mills) {
             mill = m;
             hours = k;
@@ -670,8 +670,19 @@ public final class MillStream {
             leastWaste = Integer.MAX_VALUE;
         }
 
+        /** Makes the best plan for the hours behind a stage the latest one: its waste; NONE: there is none. */
+        int find(Valley valley, Stage from) {
+            search(valley, from, 0, 0, 0);
+            if (leastWaste == Integer.MAX_VALUE) {
+                return NONE;
+            }
+            System.arraycopy(best, 0, wheels, 0, MOST_HOURS);
+            size = hours;
+            return leastWaste;
+        }
+
         /** Tries all wheels of the hour behind a stage, with what the hours ahead of it wasted and worked. */
-        void search(Valley valley, Stage from, int depth, int waste, int work) {
+        private void search(Valley valley, Stage from, int depth, int waste, int work) {
             if (depth >= hours || depth >= MOST_HOURS) {
                 leastWaste = waste;
                 System.arraycopy(tried, 0, best, 0, MOST_HOURS);
@@ -692,16 +703,6 @@ public final class MillStream {
                     search(valley, s, depth + 1, wasted, worked);
                 }
             }
-        }
-
-        /** Makes what was found the latest plan: its waste; NONE: nothing was found. */
-        int keep() {
-            if (leastWaste == Integer.MAX_VALUE) {
-                return NONE;
-            }
-            System.arraycopy(best, 0, wheels, 0, MOST_HOURS);
-            size = hours;
-            return leastWaste;
         }
     }
 

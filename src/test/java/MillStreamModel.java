@@ -15,6 +15,8 @@ public final class MillStreamModel {
   private static final int NO_SUCH = -1000000;
   private static int wrong = 0;
   private static long calls = 0;
+  /** What an object answers beyond 512 calls is free: no text and no plan is begun that could go beyond them. */
+  private static final int MOST_CALLS = 512 - 105;
 
   // ---- the grammar, as Earley's items go through it: only to tell the first token with which no text goes on
 
@@ -621,6 +623,7 @@ public final class MillStreamModel {
   /** Rules that a mill can keep: so there are plans. */
   private final boolean calm;
   private int names = 0;
+  private int callsHere = 0;
 
   private MillStreamModel(int seed) {
     this.seed = seed;
@@ -630,6 +633,7 @@ public final class MillStreamModel {
 
   private void due(String call, long got, long want) {
     calls++;
+    callsHere++;
     log.append(call).append(" = ").append(want).append('\n');
     if (got != want) {
       wrong++;
@@ -883,7 +887,7 @@ public final class MillStreamModel {
     for (int i = 0; i < 12; i++) {
       tell();
     }
-    for (int i = 0; i < steps; i++) {
+    for (int i = 0; i < steps && callsHere < MOST_CALLS; i++) {
       int r = random.nextInt(40);
       if (r < 1 || r < 2 && !calm) {
         feedText(anyText());
@@ -899,7 +903,7 @@ public final class MillStreamModel {
 
   /** Texts alone: what faults they have and where, and how much of the law stands. */
   private void readOnly(int steps) {
-    for (int i = 0; i < steps; i++) {
+    for (int i = 0; i < steps && callsHere < MOST_CALLS; i++) {
       feedText(anyText());
       due("count(4)", real.count(4), model.count(4));
       due("count(5)", real.count(5), model.count(5));
