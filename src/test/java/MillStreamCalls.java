@@ -206,6 +206,13 @@ public final class MillStreamCalls {
     Sheet.planned(x, 2, 1);
     x.order(1, true, 9);
     Sheet.due("what goes through another's gate does not count", x.plan(0, 2, 0), 6);
+    // The pond below is full and spills all that comes: that is not this one's.
+    MillStream w = mills(20, 1);
+    w.spring(6);
+    w.clock(10);
+    Sheet.due("what another spills", w.at(10, 1, 0, 8), 6);
+    Sheet.due("what another spills does not count", w.plan(0, 2, 0), 0);
+    Sheet.planned(w, 3, 3);
     // The gate lets out what the wheel leaves: a plan that empties the pond by the wheel is the best.
     MillStream y = pond(16);
     y.clock(1);

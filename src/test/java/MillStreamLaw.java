@@ -72,6 +72,9 @@ public final class MillStreamLaw {
     Sheet.due("count(5)", z.count(5), 4);
     Sheet.due("what is broken", Sheet.broken(z, 0), "0 1 3");
     Sheet.due("the gate", z.at(0, 0, 0, 3), 2);
+    z.clock(100);
+    Sheet.fault(z, "act e from 0;any opens 6;end", 0, -1);
+    Sheet.due("the gate of hour 0, by what is read in hour 100", z.at(0, 0, 0, 3), 6);
     // Ten texts of nearly 600 tokens each, each in force on a day of its own.
     MillStream many = one();
     for (int day = 0; day < 10; day++) {
@@ -738,6 +741,13 @@ public final class MillStreamLaw {
     Sheet.fault(OPENS + "((1)*((1)+((1)-((1)+((((1)+(1+(1))))))));end", 2, OPENS.length() + 30);
     Sheet.fault(OPENS + "1 if 1<(-(-(-(-(-(-(-(-(-1)))))))));end", 2, OPENS.length() + 7 + 16);
     Sheet.fault(MUST + "(((((((((", 2, MUST.length() + 8);
+    // Behind eight of them only a ninth has no room: all else fits or does not.
+    String[] misfits = {")", ";", "*", "+", "==", "end", "a", ":", "#", "12345"};
+    for (String t : misfits) {
+      Sheet.fault(OPENS + "((((((((" + t, 1, OPENS.length() + 8);
+    }
+    Sheet.fault(OPENS + "((((((((", 1, OPENS.length() + 8);
+    Sheet.good(OPENS + "((((((((-level*2+out))))))));end");
     Sheet.fault(MUST + "1 < 1 + 2 * (((((((( (", 2, MUST.length() + 12 + 9);
     yes(eight + "==1", "-(-(-(-(-(-(-(-1)))))))==1", "1+2*(1+2*(1+2*(1+2*(1+2*(1+2*(1+2*(1+2*(3))))))))==1023");
   }
