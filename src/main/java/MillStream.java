@@ -775,6 +775,8 @@ public final class MillStream {
 
         final int[] kind = new int[MOST + 1];
         final int[] place = new int[MOST + 1];
+        /** The values of ints; of other kinds 0. */
+        final int[] number = new int[MOST + 1];
 
         void scan(Tape tape) {
             int p = 0;
@@ -788,17 +790,9 @@ public final class MillStream {
                 if (kind[i] == END || kind[i] == BAD) {
                     return;
                 }
+                number[i] = kind[i] == INT ? numberOf(tape, p, end) : 0;
                 p = end;
             }
-        }
-
-        int number(Tape tape, int i) {
-            int sum = 0;
-            int p = place[i];
-            for (int j = 0; j < MOST_DIGITS && sortOf(tape.peek(p + j)) == DIGIT; j++) {
-                sum = 10 * sum + tape.peek(p + j) - '0';
-            }
-            return sum;
         }
 
         /** A name as a number of its own. */
@@ -807,6 +801,14 @@ public final class MillStream {
             int p = place[i];
             for (int j = 0; j < MOST_LETTERS && sortOf(tape.peek(p + j)) == LETTER; j++) {
                 sum = 32 * sum + tape.peek(p + j) - 'a' + 1;
+            }
+            return sum;
+        }
+
+        private static int numberOf(Tape tape, int p, int end) {
+            int sum = 0;
+            for (int j = p; j < end; j++) {
+                sum = 10 * sum + tape.peek(j) - '0';
             }
             return sum;
         }
@@ -907,7 +909,8 @@ public final class MillStream {
         int faultPlace = NONE;
         private final Tokens tokens = new Tokens();
         private int next = 0;
-        private int fault = 0;
+        /** What stops a text that cannot be read to its end: its syntax, unless there is no room. */
+        private int fault = SYNTAX;
         private int lateFault = 0;
         private int latePlace = NONE;
 
@@ -915,8 +918,7 @@ public final class MillStream {
             tokens.scan(tape);
             law.startDraft();
             next = 0;
-            fault = 0;
-            faultPlace = NONE;
+            fault = SYNTAX;
             lateFault = 0;
             latePlace = NONE;
         }
@@ -924,14 +926,15 @@ public final class MillStream {
         /** Empties the tape, and adds the draft to the law if it has no fault: 0, or the fault's number. */
         int close(boolean whole) {
             tape.size = 0;
-            if (whole) {
-                fault = lateFault;
-                faultPlace = latePlace;
+            if (!whole) {
+                faultPlace = next <= Tokens.MOST ? tokens.place[next] : NONE;
+                return fault;
             }
-            if (fault == 0) {
+            if (lateFault == 0) {
                 law.takeDraft();
             }
-            return fault;
+            faultPlace = latePlace;
+            return lateFault;
         }
 
         boolean text() {
@@ -948,12 +951,13 @@ public final class MillStream {
                     return false;
                 }
             }
-            return kind() == Tokens.END || stop(SYNTAX);
+            return kind() == Tokens.END;
         }
 
         private boolean heading() {
             if (law.draftActs >= Law.MOST_ACTS) {
-                return stop(ROOM);
+                fault = ROOM;
+                return false;
             }
             int name = next + 1;
             if (!take(Tokens.ACT) || !take(Tokens.NAME)) {
@@ -967,14 +971,14 @@ public final class MillStream {
             if (!take(Tokens.FROM) || !take(Tokens.INT)) {
                 return false;
             }
-            int fromDay = tokens.number(tape, from);
+            int fromDay = tokens.number[from];
             int untilDay = NONE;
             if (kind() == Tokens.UNTIL) {
                 int until = next + 1;
                 if (!take(Tokens.UNTIL) || !take(Tokens.INT)) {
                     return false;
                 }
-                untilDay = tokens.number(tape, until);
+                untilDay = tokens.number[until];
                 if (untilDay <= fromDay) {
                     note(WRONG, until);
                 }
@@ -986,7 +990,8 @@ public final class MillStream {
         private boolean rule() {
             int r = law.draftRules;
             if (r >= Law.MOST_RULES) {
-                return stop(ROOM);
+                fault = ROOM;
+                return false;
             }
             law.draftRule();
             if (!who(r)) {
@@ -1014,7 +1019,7 @@ public final class MillStream {
             if (!take(Tokens.MILL) || !take(Tokens.INT)) {
                 return false;
             }
-            law.who[r] = tokens.number(tape, number);
+            law.who[r] = tokens.number[number];
             if (law.who[r] >= MOST_MILLS) {
                 note(WRONG, number);
             }
@@ -1051,62 +1056,49 @@ public final class MillStream {
                 return false;
             }
             int sign = kind();
-            if (sign < Tokens.EQUAL || sign > Tokens.AT_MOST) {
-                return stop(SYNTAX);
-            }
-            if (!take(sign) || !sum(0)) {
+            if (sign < Tokens.EQUAL || sign > Tokens.AT_MOST || !take(sign) || !sum(0)) {
                 return false;
             }
             law.emit(-sign);
             return true;
         }
 
+        /** A '+' or '-' waits until all that '*' joins behind it is there. */
         private boolean sum(int depth) {
-            boolean minus = kind() == Tokens.MINUS;
-            if (minus && !take(Tokens.MINUS)) {
+            int waits = kind() == Tokens.MINUS ? Tokens.NEGATE : 0;
+            if (waits != 0 && !take(Tokens.MINUS) || !unit(depth)) {
                 return false;
             }
-            if (!product(depth)) {
-                return false;
-            }
-            if (minus) {
-                law.emit(-Tokens.NEGATE);
-            }
-            for (int i = 0; i < Tokens.MOST && (kind() == Tokens.PLUS || kind() == Tokens.MINUS); i++) {
+            for (int i = 0; i < Tokens.MOST && kind() >= Tokens.PLUS && kind() <= Tokens.TIMES; i++) {
                 int sign = kind();
-                if (!take(sign) || !product(depth)) {
+                if (sign != Tokens.TIMES) {
+                    if (waits != 0) {
+                        law.emit(-waits);
+                    }
+                    waits = sign;
+                }
+                if (!take(sign) || !unit(depth)) {
                     return false;
                 }
-                law.emit(-sign);
-            }
-            return true;
-        }
-
-        private boolean product(int depth) {
-            if (!unit(depth)) {
-                return false;
-            }
-            for (int i = 0; i < Tokens.MOST && kind() == Tokens.TIMES; i++) {
-                if (!take(Tokens.TIMES) || !unit(depth)) {
-                    return false;
+                if (sign == Tokens.TIMES) {
+                    law.emit(-sign);
                 }
-                law.emit(-Tokens.TIMES);
+            }
+            if (waits != 0) {
+                law.emit(-waits);
             }
             return true;
         }
 
         private boolean unit(int depth) {
             int kind = kind();
-            if (kind == Tokens.INT) {
-                law.emit(tokens.number(tape, next));
-                return take(kind);
-            }
-            if (kind >= Tokens.VAR) {
-                law.emit(-kind);
+            if (kind == Tokens.INT || kind >= Tokens.VAR) {
+                law.emit(kind == Tokens.INT ? tokens.number[next] : -kind);
                 return take(kind);
             }
             if (kind == Tokens.OPEN && depth >= MOST_DEPTH) {
-                return stop(ROOM);
+                fault = ROOM;
+                return false;
             }
             return take(Tokens.OPEN) && sum(depth + 1) && take(Tokens.CLOSE);
         }
@@ -1115,21 +1107,17 @@ public final class MillStream {
             return next <= Tokens.MOST ? tokens.kind[next] : Tokens.BAD;
         }
 
+        /** Goes on behind a token of the kind that is wanted, if it is one and not one too many. */
         private boolean take(int wanted) {
-            if (kind() != wanted) {
-                return stop(SYNTAX);
+            if (next > Tokens.MOST || tokens.kind[next] != wanted) {
+                return false;
             }
-            if (next >= Tokens.MOST) {
-                return stop(ROOM);
+            if (next == Tokens.MOST) {
+                fault = ROOM;
+                return false;
             }
             next++;
             return true;
-        }
-
-        private boolean stop(int number) {
-            fault = number;
-            faultPlace = next <= Tokens.MOST ? tokens.place[next] : tape.size;
-            return false;
         }
 
         private void note(int number, int token) {

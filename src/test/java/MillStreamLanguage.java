@@ -1,3 +1,10 @@
+import com.sun.source.tree.CompilationUnitTree;
+import com.sun.source.tree.IdentifierTree;
+import com.sun.source.tree.MemberSelectTree;
+import com.sun.source.tree.MethodInvocationTree;
+import com.sun.source.tree.MethodTree;
+import com.sun.source.util.JavacTask;
+import com.sun.source.util.TreeScanner;
 import java.lang.management.ManagementFactory;
 import java.lang.reflect.Field;
 import java.lang.reflect.Method;
@@ -5,11 +12,17 @@ import java.lang.reflect.Modifier;
 import java.nio.charset.StandardCharsets;
 import java.nio.file.Files;
 import java.nio.file.Path;
+import java.util.LinkedHashSet;
 import java.util.List;
+import java.util.Map;
 import java.util.Set;
+import java.util.TreeMap;
 import java.util.TreeSet;
 import java.util.regex.Matcher;
 import java.util.regex.Pattern;
+import javax.tools.JavaCompiler;
+import javax.tools.StandardJavaFileManager;
+import javax.tools.ToolProvider;
 
 /** The form of the program: the document's face and no more, what LANGUAGE.md forbids, and how much a run makes. */
 public final class MillStreamLanguage {
@@ -107,6 +120,53 @@ public final class MillStreamLanguage {
     }
   }
 
+  /** Which methods call which, by their names alone: two of one name count as one that calls what both do. */
+  private static final class Calls extends TreeScanner<Void, Set<String>> {
+    final Map<String, Set<String>> of = new TreeMap<>();
+
+    @Override
+    public Void visitMethod(MethodTree method, Set<String> outer) {
+      return super.visitMethod(method, of.computeIfAbsent(method.getName().toString(), n -> new TreeSet<>()));
+    }
+
+    @Override
+    public Void visitMethodInvocation(MethodInvocationTree call, Set<String> from) {
+      if (from != null && call.getMethodSelect() instanceof IdentifierTree own) {
+        from.add(own.getName().toString());
+      }
+      if (from != null && call.getMethodSelect() instanceof MemberSelectTree others) {
+        from.add(others.getIdentifier().toString());
+      }
+      return super.visitMethodInvocation(call, from);
+    }
+
+    /** Goes down all ways that have no method twice: a call of one that stands open is recursion. */
+    void descend(String method, Set<String> open) {
+      if (of.containsKey(method) && open.add(method)) {
+        must(open.size() <= 8, "rule 11: these calls go too deep: " + open);
+        for (String next : of.get(method)) {
+          descend(next, open);
+        }
+        open.remove(method);
+      }
+    }
+  }
+
+  private static void depths() throws Exception {
+    JavaCompiler compiler = ToolProvider.getSystemJavaCompiler();
+    try (StandardJavaFileManager files = compiler.getStandardFileManager(null, null, null)) {
+      JavacTask task = (JavacTask) compiler.getTask(null, files, null, null, null, files.getJavaFileObjects(SOURCE));
+      Calls calls = new Calls();
+      for (CompilationUnitTree unit : task.parse()) {
+        calls.scan(unit, null);
+      }
+      must(calls.of.size() > 60, "rule 11: no calls were found");
+      for (String method : calls.of.keySet()) {
+        calls.descend(method, new LinkedHashSet<>());
+      }
+    }
+  }
+
   private static long made() {
     com.sun.management.ThreadMXBean bean = (com.sun.management.ThreadMXBean) ManagementFactory.getThreadMXBean();
     return bean.getThreadAllocatedBytes(Thread.currentThread().getId());
@@ -147,6 +207,7 @@ public final class MillStreamLanguage {
   public static void main(String[] args) throws Exception {
     face();
     words();
+    depths();
     room();
     System.out.println(wrong == 0 ? "the form is as due" : wrong + " rules are not kept");
     if (wrong != 0) {
